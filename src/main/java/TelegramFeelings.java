@@ -266,10 +266,12 @@ public final class TelegramFeelings {
         if (refused != 0) {
             return refused;
         }
+        int sense = telegram.senseOf();
+        int paid = telegram.costs();
         int set = 0;
         int likeliest = NOT;
         for (int one = 0; one < office.people; one++) {
-            if (maySend(one)) {
+            if (maySend(one, sense, paid)) {
                 set |= 1 << one;
                 if (likeliest < 0 || office.value(one, PURSE) > office.value(likeliest, PURSE)) {
                     likeliest = one;
@@ -279,10 +281,9 @@ public final class TelegramFeelings {
         return what == 0 ? set : likeliest;
     }
 
-    /** Whether one FEELS all of the opened TELEGRAM, and has its PRICE. */
-    private boolean maySend(int one) {
-        return (telegram.senseOf() & ~office.value(one, FEELS)) == 0
-                && telegram.costs() <= office.value(one, PURSE);
+    /** Whether one FEELS all of a SENSE, and has its PRICE. */
+    private boolean maySend(int one, int sense, int paid) {
+        return (sense & ~office.value(one, FEELS)) == 0 && paid <= office.value(one, PURSE);
     }
 
     public int club(int set, int v, int one) {
@@ -369,12 +370,13 @@ public final class TelegramFeelings {
         if (!telegram.isRight()) {
             return deeds.refuse(NOT);
         }
-        if (!maySend(who)) {
+        int sense = telegram.senseOf();
+        int paid = telegram.costs();
+        if (!maySend(who, sense, paid)) {
             return deeds.refuse(STATE);
         }
-        int paid = telegram.costs();
         office.set(who, PURSE, office.value(who, PURSE) - paid);
-        office.set(whom, FEELS, office.value(whom, FEELS) | telegram.senseOf());
+        office.set(whom, FEELS, office.value(whom, FEELS) | sense);
         deeds.noteWire(telegram.size, paid);
         return paid;
     }
@@ -1235,6 +1237,7 @@ public final class TelegramFeelings {
         /** Of drawn TELEGRAMS of three WORDS, how many were RIGHT, or else came with another SENSE. */
         int draws(int seed, int many, boolean rightOnes) {
             int words = office.words;
+            int err = office.value(0, ERR);
             int found = 0;
             int z = seed;
             for (int i = 0; i < many && words > 0; i++) {
@@ -1245,7 +1248,7 @@ public final class TelegramFeelings {
                 for (int k = 0; k < 3; k++) {
                     z = z * 1103515245 + 12345;
                     int word = (z >>> 10) % words;
-                    boolean slips = (z >>> 18) % TWELVE < office.value(0, ERR);
+                    boolean slips = (z >>> 18) % TWELVE < err;
                     right = right && Telegram.follows(last, office.value(word, SORT));
                     last = office.value(word, SORT);
                     sent |= office.value(word, SENSE);
