@@ -526,7 +526,7 @@ public final class TelegramFeelings {
         }
 
         boolean has(int number, int what) {
-            if (number < 0 || what < 0 || what > FORM) {
+            if (number < 0 || number >= WORDS || what < 0 || what > FORM) {
                 return false;
             }
             return number < (what <= SLIP ? words : what <= FEELS ? people : 1);
@@ -601,7 +601,7 @@ public final class TelegramFeelings {
         }
 
         int feedOne(int letter) {
-            if (fed >= TAPE) {
+            if (fed < 0 || fed >= TAPE) {
                 return FULL;
             }
             tape[fed++] = letter;
@@ -785,8 +785,8 @@ public final class TelegramFeelings {
                 int sign = signs[i];
                 if (sign >= 0) {
                     push(sign);
-                } else if (-sign <= named.length) {
-                    push(named[-sign - 1]);
+                } else if (sign >= -named.length) {
+                    push(named[-1 - sign]);
                 } else if (sign == -'?') {
                     counts = pop() != 0;
                 } else if (sign == -';') {
@@ -914,12 +914,12 @@ public final class TelegramFeelings {
             return mayEnd(last);
         }
 
-        /** Whether a WORD of a SORT may stand behind one of another (NONE: first). */
+        /** Whether a WORD of a SORT (WHO, WHAT, HOW; no other one may) may stand behind one of another (NONE: first). */
         static boolean follows(int ahead, int sort) {
             if (ahead == NONE || sort == WHO) {
                 return ahead == NONE && sort == WHO;
             }
-            return sort == WHAT || ahead != WHO;
+            return sort == WHAT || sort == HOW && ahead != WHO;
         }
 
         /** Behind its first WORD only a WHAT may follow: so one that goes on has a WHAT. */
@@ -1023,7 +1023,7 @@ public final class TelegramFeelings {
         }
 
         private boolean isFor(int sense, int v) {
-            return best[sense] >= 0 && priceIn(best[sense]) <= v;
+            return sense >= 0 && sense < SENSES && best[sense] >= 0 && priceIn(best[sense]) <= v;
         }
 
         private static long firstOf(long a, long b) {
@@ -1065,7 +1065,9 @@ public final class TelegramFeelings {
                     price = price < 0 ? law.priceOf(word, ahead, place) : price;
                     long with = (said >> PRICE_FROM) + price << PRICE_FROM | (said & ALL_WORDS) << A_WORD | word;
                     int to = sort * SENSES + (sense | more);
-                    longer[to] = firstOf(longer[to], with);
+                    if (to >= 0 && to < longer.length) {
+                        longer[to] = firstOf(longer[to], with);
+                    }
                 }
             }
         }
@@ -1332,7 +1334,7 @@ public final class TelegramFeelings {
         }
 
         void note(int number, int what, int old, int now) {
-            if (done >= MOST) {
+            if (done < 0 || done >= MOST) {
                 dropFirst();
             }
             numbers[done] = number;
@@ -1386,7 +1388,7 @@ public final class TelegramFeelings {
         private int own;
 
         int add(int kind) {
-            if (size >= MOST) {
+            if (size < 0 || size >= MOST) {
                 return FULL;
             }
             kinds[size] = kind;
@@ -1578,7 +1580,7 @@ public final class TelegramFeelings {
         }
 
         void lay(int shelf, int sort, int n) {
-            if (has(shelf)) {
+            if (has(shelf) && n >= 0 && n <= LONGEST) {
                 sorts[shelf] = sort;
                 sizes[shelf] = n;
                 Arrays.fill(elements[shelf], 0);

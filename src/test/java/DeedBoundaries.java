@@ -508,6 +508,29 @@ public final class DeedBoundaries extends Boundary {
             due(60, x.of(0, PURSE));
             due(STATE, x.undo());
         });
+        test(29, "40 at most are kept: each with its number, what, and v", () -> {
+            TelegramFeelings x = manyWords();
+            x.person(5);
+            int[][] told = new int[45][];
+            for (int i = 0; i < 45; i++) {
+                int what = i % 3 == 0 ? COST : i % 3 == 1 ? LONG : i % 2 == 0 ? PURSE : FORM;
+                int number = what <= SLIP ? i * 5 % 12 : 0;
+                int v = 1 + (i + 6) % 9;
+                v = x.of(number, what) == v ? v % 9 + 1 : v;
+                told[i] = new int[] {number, what, x.mend(number, what, v), v};
+            }
+            due(40, x.count(3));
+            for (int i = 44; i >= 5; i--) {
+                due(told[i][3], x.of(told[i][0], told[i][1]));
+                due(i - 5, x.undo());
+                due(told[i][2], x.of(told[i][0], told[i][1]));
+            }
+            due(STATE, x.undo());
+            for (int i = 5; i < 45; i++) {
+                due(44 - i, x.redo());
+                due(told[i][3], x.of(told[i][0], told[i][1]));
+            }
+        });
         test(29, "40 at most, and some undone: as many more are kept again", () -> {
             TelegramFeelings x = changed(40);
             for (int i = 0; i < 3; i++) {

@@ -128,6 +128,9 @@ public final class ErrorsBoundaries extends Boundary {
             refused(() -> fiveWith(), NOT, x -> x.cameAs(0, 0));
             refused(() -> fiveWith(5), NOT, x -> x.cameAs(0, 0));
             refused(() -> fiveWith(1, 1), NOT, x -> x.cameAs(0, 1));
+            refused(() -> row(words(1, 1, 0), 0, 0, 0), NOT, x -> x.cameAs(0, 0));
+            refused(() -> row(words(1, 1, 0), 0, 0, 0, 0), NOT, x -> x.cameAs(0, 1));
+            refused(() -> row(words(1, 1, 0, 1, 2, 2), 0, 0, 0, 1), NOT, x -> x.cameAs(0, 1));
             refused(() -> row(fresh(), 0, 0, 0, 0), NOT, x -> x.cameAs(0, 0));
         });
         test(16, "of like ones the first by numbers", () -> {
@@ -142,6 +145,26 @@ public final class ErrorsBoundaries extends Boundary {
             heard(x, 0, 1, 1, 1, 1, 1);
             x.mend(0, ERR, 12);
             heard(x, 0, 2, 2, 2, 2, 2);
+        });
+        test(16, "of like ones the first by numbers, though they are of unlike SORTS", () -> {
+            heard(howOrWhat(6, 2, 1, 0, 1, 3), 0, 1, 2);
+            heard(howOrWhat(6, 1, 2, 0, 1, 3), 0, 1, 2);
+            heard(howOrWhat(6, 2, 1, 0, 1, 2), 0, 1, 2);
+            heard(howOrWhat(6, 2, 1, 0, 1, 3, 1), 0, 1, 2, 1);
+            heard(howOrWhat(6, 1, 2, 0, 1, 3, 1), 0, 1, 2, 1);
+            heard(howOrWhat(6, 2, 1, 0, 1, 3, 3), 0, 1, 2, 2);
+            heard(howOrWhat(6, 1, 2, 0, 3, 3, 1, 2), 0, 2, 2, 1, 2);
+            // behind a who only the what is RIGHT
+            heard(howOrWhat(6, 2, 1, 0, 3, 3, 1, 2), 0, 3, 2, 1, 2);
+        });
+        test(16, "the likeliest, though one of another SORT is the first by numbers", () -> {
+            heard(howOrWhat(1, 2, 1, 0, 1, 3), 0, 1, 3);
+            heard(howOrWhat(1, 1, 2, 0, 1, 3), 0, 1, 3);
+            heard(howOrWhat(11, 2, 1, 0, 1, 3), 0, 1, 2);
+            heard(howOrWhat(11, 1, 2, 0, 1, 3), 0, 1, 2);
+            heard(howOrWhat(1, 2, 1, 0, 1, 3, 1), 0, 1, 3, 1);
+            heard(howOrWhat(1, 2, 1, 0, 1, 3, 2, 3), 0, 1, 3, 2, 3);
+            heard(howOrWhat(11, 1, 2, 0, 1, 2, 3), 0, 1, 3, 2);
         });
         test(16, "ERR 0 and 12, the least and the greatest", () -> {
             heard(fiveBy(0, 0, 1, 3), 0, 1, 3);
@@ -160,6 +183,15 @@ public final class ErrorsBoundaries extends Boundary {
             due(NOT, x.cameAs(0, 6));
             heard(fiveWith(0, 1, 1, 1, 1, 2, 0), 0, 1, 1, 1, 1, 2);
         });
+    }
+
+    /** A who, a what, and two of told SORTS that are heard as one another. */
+    private static TelegramFeelings howOrWhat(int err, int sort, int other, long... telegram) {
+        TelegramFeelings x = words(1, 1, 0, 1, 2, 1, 1, 4, sort, 1, 8, other);
+        x.mend(2, SLIP, 3);
+        x.mend(3, SLIP, 2);
+        x.mend(0, ERR, err);
+        return row(x, 0, 0, telegram);
     }
 
     private static void heard(TelegramFeelings x, int... words) {
@@ -519,6 +551,7 @@ public final class ErrorsBoundaries extends Boundary {
             pay(purses(1, 1, 1, 1, 1, 1), 52, 2, NOT, NOT, 1, NOT, 1, 0);
             // also to one with an empty PURSE
             pay(purses(0, 1, 1), 7, 1, 1, 0, 0);
+            pay(purses(0, 1), 3, 1, 0, 1);
         });
         test(21, "the greatest: 999 of six PURSES of 999", () -> {
             pay(purses(999, 999, 999, 999, 999, 999), 63, 999, 167, 167, 167, 166, 166, 166);

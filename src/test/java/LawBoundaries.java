@@ -388,6 +388,13 @@ public final class LawBoundaries extends Boundary {
         return law(x, text) == 1 ? x.price(1, 105) : NO;
     }
 
+    private static void gives(int value, String... texts) {
+        for (String text : texts) {
+            due(5 + value, worth("5+(" + text + ")"));
+            due(value, worth(text));
+        }
+    }
+
     private static void priceNames() {
         test(9, "l SORT of the WORD ahead (3: none is ahead)", () -> {
             TelegramFeelings x = words(7, 1, 1);
@@ -478,34 +485,14 @@ public final class LawBoundaries extends Boundary {
             due(3, worth("7%c"));
         });
         test(9, "| & < = > ! give 1, 0", () -> {
-            due(1, worth("5|7"));
-            due(1, worth("0|7"));
-            due(1, worth("5|0"));
-            due(0, worth("0|0"));
-            due(1, worth("5&7"));
-            due(0, worth("0&7"));
-            due(0, worth("5&0"));
-            due(1, worth("1&2"));
-            due(1, worth("-1|0"));
-            due(1, worth("4<5"));
-            due(0, worth("5<5"));
-            due(0, worth("6<5"));
-            due(0, worth("4=5"));
-            due(1, worth("5=5"));
-            due(0, worth("4>5"));
-            due(0, worth("5>5"));
-            due(1, worth("6>5"));
-            due(1, worth("-1<0"));
-            due(1, worth("!0"));
-            due(0, worth("!1"));
-            due(0, worth("!2"));
-            due(0, worth("!-1"));
-            due(1, worth("!!5"));
+            // 5 more: 0 is told from what is held
+            gives(1, "5|7", "0|7", "5|0", "-1|0", "5&7", "1&2", "-1&-1", "4<5", "-1<0", "5=5", "-1=-1", "6>5", "0>-1", "!0", "!!5",
+                    "!!-5", "!(0)");
+            gives(0, "0|0", "0&7", "5&0", "0&0", "5<5", "6<5", "4=5", "5=4", "4>5", "5>5", "!1", "!2", "!-1", "!!0");
         });
         test(9, "all is worked out: what is behind | and & too, to no harm", () -> {
-            due(1, worth("1|1/0"));
-            due(0, worth("0&1/0"));
-            due(0, worth("0&1%0"));
+            gives(1, "1|1/0", "1|1%0", "1/0|1");
+            gives(0, "0&1/0", "0&1%0", "1/0&0", "1/0|0");
         });
         test(9, "a number of 4 digits, 0s ahead", () -> {
             due(7, worth("0007"));

@@ -377,6 +377,21 @@ public final class ThoughtBoundaries extends Boundary {
             said(words(2, 0, 0, 1, 0, 0, 2, 1, 1, 1, 1, 1), 64, 2, 1, 3);
             said(words(2, 0, 0, 1, 0, 0, 2, 1, 1, 3, 1, 1), 64, 3, 1, 2);
         });
+        test(11, "of like ones the first by numbers, where they cost nothing", () -> {
+            TelegramFeelings x = words(1, 0, 0, 1, 0, 0, 1, 0, 1, 1, 0, 1);
+            law(x, "0");
+            said(x, 0, 0, 0, 2);
+            x.mend(0, SORT, 1);
+            said(x, 0, 0, 1, 0);
+        });
+        test(11, "all six bits, by one WORD or by several", () -> {
+            said(words(1, 63, 0, 2, 63, 1), 64 * 63, 3, 0, 1);
+            said(words(1, 63, 0, 2, 0, 1), 64 * 63, 3, 0, 1);
+            said(words(1, 0, 0, 2, 63, 1), 64 * 63, 3, 0, 1);
+            said(words(1, 21, 0, 2, 42, 1), 64 * 63, 3, 0, 1);
+            said(words(1, 63, 0, 2, 0, 1, 1, 0, 2), 64 * 63, 3, 0, 1);
+            due(NOT, words(1, 31, 0, 2, 31, 1).say(64 * 63, -1));
+        });
         test(11, "a change, a TEXT, the night, a WORD that comes: told anew", () -> {
             TelegramFeelings x = five();
             said(x, 0, 5, 0, 1);
@@ -474,6 +489,12 @@ public final class ThoughtBoundaries extends Boundary {
             due(31, seven().allFor(6, 1));
             due(15, seven().allFor(5, 1));
         });
+        test(12, "all six bits", () -> {
+            due(6, words(1, 63, 0, 2, 63, 1).allFor(3, 0));
+            due(63, words(1, 63, 0, 2, 0, 1).allFor(3, 1));
+            due(63, words(1, 0, 0, 2, 63, 1).allFor(999, 1));
+            due(NOT, words(1, 63, 0, 2, 63, 1).allFor(2, 1));
+        });
     }
 
     // ---- tooDear
@@ -518,6 +539,19 @@ public final class ThoughtBoundaries extends Boundary {
             TelegramFeelings x = fiveAnd(0);
             law(x, "0");
             due(32, x.tooDear(0));
+        });
+        test(13, "no bit is too dear: all six by one WORD, or by several", () -> {
+            TelegramFeelings x = words(1, 63, 0, 2, 63, 1);
+            x.person(3);
+            due(0, x.tooDear(0));
+            x.mend(0, SENSE, 0);
+            due(0, x.tooDear(0));
+            x.mend(1, SENSE, 31);
+            due(32, x.tooDear(0));
+            x.mend(0, SENSE, 32);
+            due(0, x.tooDear(0));
+            x.mend(0, PURSE, 2);
+            due(63, x.tooDear(0));
         });
         test(13, "6 WORDS at most: a bit by the sixth WORD, not by a seventh", () -> {
             TelegramFeelings x = words(1, 0, 0, 1, 0, 1, 1, 32, 2);
@@ -620,6 +654,11 @@ public final class ThoughtBoundaries extends Boundary {
             all[15] = 999;
             bought(offers(999, all), 1006, 255);
             bought(offers(1, all), 999, 128);
+            // the eighth one lacks its worth, or is not so
+            bought(offers(999, 1, 1, 1, 1, 1, 1, 1, 1, 1, 1, 1, 1, 1, 1, 1), 7, 127);
+            bought(offers(999, 1, 1, 1, 1, 1, 1, 1, 1, 1, 1, 1, 1, 1, 1, 1, 1000), 7, 127);
+            bought(offers(999, 1, 1, 1, 1, 1, 1, 1, 1, 1, 1, 1, 1, 1, 1, -1, 1), 7, 127);
+            bought(offers(999, 1, 1, 1, 1, 1, 1, 1, 1, 1, 1, 1, 1, 1, 1, 1, 1), 8, 255);
         });
         test(14, "a ROW's short keeps its lowest bits", () -> {
             bought(offers(999, 65536 + 5, 131072 + 7, 1, 1), 8, 3);
@@ -645,6 +684,10 @@ public final class ThoughtBoundaries extends Boundary {
             // what is worth nothing isn't in the least
             bought(offers(10, 0, 0, 1, 5), 5, 2);
             bought(offers(10, 0, 0), 0, 0);
+        });
+        test(14, "the least worth that is one", () -> {
+            bought(offers(10, 5, 1), 1, 1);
+            bought(offers(10, 10, 1, 10, 2), 2, 2);
         });
         test(14, "the greatest of all", () -> {
             long[] all = new long[16];
