@@ -311,6 +311,11 @@ public final class LawBoundaries extends Boundary {
             due(1, law(x, "0?5"));
             due(0, x.price(0, 300));
         });
+        test(8, "with a FAULT nothing changes but THE TAPE", () -> alike(() -> rich(true, false), () -> {
+            TelegramFeelings x = rich();
+            due(-102, x.law());
+            return x;
+        }));
         test(8, "a TEXT becomes THE LAW: nothing else changes", () -> {
             TelegramFeelings x = rich();
             x.law();

@@ -104,6 +104,15 @@ public final class ShelfBoundaries extends Boundary {
             noAct(2, 4);
             noAct(-1, -1);
         });
+        test(32, "0, and no TRACE then: nothing else changes", () -> {
+            for (int[] none : new int[][] {{-1, 0}, {2, 0}, {50, 3}, {0, -1}, {0, 4}}) {
+                alike(() -> rich(false, true), () -> {
+                    TelegramFeelings x = rich();
+                    due(0, x.act(none[0], none[1], 7));
+                    return x;
+                });
+            }
+        });
         test(32, "BODIES 0 and 49, ACTS 0 and 3 are allowed", () -> {
             TelegramFeelings x = manyBodies();
             due(7, x.act(0, 0, 7));

@@ -172,6 +172,11 @@ abstract class Boundary {
      * wires, refused ones, an image, bodies, a trace; on the shelves bytes 0 1 3, shorts, a BODY, nothing, longs, none.
      */
     static TelegramFeelings rich() {
+        return rich(true, true);
+    }
+
+    /** rich(), but perhaps without a TRACE, or with an empty TAPE. */
+    static TelegramFeelings rich(boolean acted, boolean taped) {
         TelegramFeelings x = five();
         x.person(40);
         x.person(9);
@@ -195,8 +200,10 @@ abstract class Boundary {
         x.mend(3, COST, 3);
         x.mend(0, FORM, 9);
         x.undo();
-        x.act(0, 3, 5);
-        tape(x, "1+");
+        if (acted) {
+            x.act(0, 3, 5);
+        }
+        tape(x, taped ? "1+" : "");
         return x;
     }
 
@@ -254,6 +261,13 @@ abstract class Boundary {
             TelegramFeelings x = made.get();
             due(want, call.applyAsLong(x));
             same(view.apply(made.get()), view.apply(x));
+        }
+    }
+
+    /** All that may be asked for is answered alike. */
+    static void alike(Supplier<TelegramFeelings> one, Supplier<TelegramFeelings> other) {
+        for (Function<TelegramFeelings, String> view : VIEWS) {
+            same(view.apply(one.get()), view.apply(other.get()));
         }
     }
 
