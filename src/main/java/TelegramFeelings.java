@@ -916,8 +916,8 @@ public final class TelegramFeelings {
 
         /** Whether a WORD of a SORT (WHO, WHAT, HOW; no other one may) may stand behind one of another (NONE: first). */
         static boolean follows(int ahead, int sort) {
-            if (ahead == NONE || sort == WHO) {
-                return ahead == NONE && sort == WHO;
+            if (ahead == NONE) {
+                return sort == WHO;
             }
             return sort == WHAT || sort == HOW && ahead != WHO;
         }
